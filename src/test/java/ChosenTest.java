@@ -10,7 +10,7 @@ public final class ChosenTest {
     }
 
     private static void kite() {
-        RoundBench bench = Nets.kite();
+        Bench bench = Nets.kite();
         bench.choose(4, 0);
         int[][] last = {{2, 1, -1}, {2, 1, -1}, {1, 1, -1}, {2, 1, -1}, {1, 1, -1}, {2, 1, -1}};
         CHECKS.round("round 1", bench, 14, last);
@@ -18,7 +18,7 @@ public final class ChosenTest {
     }
 
     private static void fallingPath() {
-        RoundBench bench = Nets.path(5);
+        Bench bench = Nets.path(5);
         Nets.identities(bench, 5, 4, 3, 2, 1);
         bench.ready();
         bench.choose(4, 0);
@@ -32,7 +32,7 @@ public final class ChosenTest {
     }
 
     private static void single() {
-        RoundBench bench = Nets.single();
+        Bench bench = Nets.single();
         bench.choose(4, 0);
         CHECKS.round("one node", bench, 0, new int[][] {{1, 1, -1}});
         CHECKS.over("one node", bench, 1, 0, new int[][] {{1, 1, -1}});

@@ -18,7 +18,7 @@ public final class ColoursTest {
     }
 
     private static void kite() {
-        RoundBench bench = Nets.kite();
+        Bench bench = Nets.kite();
         bench.choose(3, 0);
         CHECKS.round("round 1", bench, 5, colours(0, 2, 5, 3, 9, 2));
         CHECKS.round("round 2", bench, 5, colours(0, 3, 1, 1, 2, 0));
@@ -28,7 +28,7 @@ public final class ColoursTest {
     }
 
     private static void highPlaces() {
-        RoundBench bench = new RoundBench();
+        Bench bench = new Bench();
         bench.net(3);
         Nets.edges(bench, new int[][] {{0, 1, 1}, {1, 2, 1}});
         Nets.identities(bench, 1, 513, 257);
@@ -38,7 +38,7 @@ public final class ColoursTest {
     }
 
     private static void single() {
-        RoundBench bench = Nets.single();
+        Bench bench = Nets.single();
         bench.identity(0, 998);
         bench.ready();
         bench.choose(3, 0);

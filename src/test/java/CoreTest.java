@@ -11,7 +11,7 @@ public final class CoreTest {
     }
 
     private static void kiteOfTwo() {
-        RoundBench bench = Nets.kite();
+        Bench bench = Nets.kite();
         bench.choose(6, 2);
         CHECKS.round("K = 2, round 1", bench, 0, new int[][] {
             {1, 0, 2}, {1, 0, 3}, {1, 0, 3}, {1, 0, 3}, {1, 0, 2}, {0, 1, 1}});
@@ -21,7 +21,7 @@ public final class CoreTest {
     }
 
     private static void kiteOfThree() {
-        RoundBench bench = Nets.kite();
+        Bench bench = Nets.kite();
         bench.choose(6, 3);
         CHECKS.round("K = 3, round 1", bench, 0, new int[][] {
             {0, 1, 2}, {1, 0, 3}, {1, 0, 3}, {1, 0, 3}, {0, 1, 2}, {0, 1, 1}});
@@ -31,14 +31,14 @@ public final class CoreTest {
     }
 
     private static void kiteOfOne() {
-        RoundBench bench = Nets.kite();
+        Bench bench = Nets.kite();
         bench.choose(6, 1);
         CHECKS.over("K = 1", bench, 0, 0, new int[][] {
             {1, 0, 2}, {1, 0, 3}, {1, 0, 3}, {1, 0, 3}, {1, 0, 2}, {1, 0, 1}});
     }
 
     private static void single() {
-        RoundBench bench = Nets.single();
+        Bench bench = Nets.single();
         bench.choose(6, 1);
         CHECKS.round("one node", bench, 0, new int[][] {{0, 1, 0}});
         CHECKS.over("one node", bench, 1, 0, new int[][] {{0, 1, 0}});

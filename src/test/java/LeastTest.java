@@ -10,7 +10,7 @@ public final class LeastTest {
     }
 
     private static void kite() {
-        RoundBench bench = Nets.kite();
+        Bench bench = Nets.kite();
         bench.choose(0, 0);
         CHECKS.round("round 1", bench, 14, new int[][] {
             {20, 1, 1}, {10, 1, 3}, {10, 1, 3}, {10, 0, -1}, {10, 1, 3}, {40, 0, -1}});
@@ -21,7 +21,7 @@ public final class LeastTest {
     }
 
     private static void farAway() {
-        RoundBench bench = Nets.path(12);
+        Bench bench = Nets.path(12);
         bench.choose(0, 0);
         CHECKS.same("path: run(50)", bench.run(50), 12);
         CHECKS.same("path: letters()", bench.letters(), 22 + 2 * (10 + 9 + 8 + 7 + 6 + 5 + 4 + 3 + 2 + 1) + 11);
@@ -30,7 +30,7 @@ public final class LeastTest {
     }
 
     private static void single() {
-        RoundBench bench = Nets.single();
+        Bench bench = Nets.single();
         bench.choose(0, 0);
         CHECKS.over("one node", bench, 0, 0, new int[][] {{1, 0, -1}});
     }

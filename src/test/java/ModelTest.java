@@ -7,7 +7,7 @@ public final class ModelTest {
 
     public static void main(String[] args) {
         for (int net = 0; net < NETS; net++) {
-            Model model = makeModel(1 + net % 12, net % 3);
+            Model model = makeModel(1 + net % 12, net / 12 % 3);
             for (int algorithm = 0; algorithm < 8; algorithm++) {
                 int root = algorithm == 6 ? 1 + below(4) : below(model.n);
                 follow("net " + net + ", choose(" + algorithm + ", " + root + ")", model, algorithm, root);
@@ -83,8 +83,8 @@ public final class ModelTest {
         return ids;
     }
 
-    private static RoundBench makeBench(Model model) {
-        RoundBench bench = new RoundBench();
+    private static Bench makeBench(Model model) {
+        Bench bench = new Bench();
         bench.net(model.n);
         Nets.edges(bench, model.edges);
         Nets.identities(bench, model.ids);
@@ -92,32 +92,46 @@ public final class ModelTest {
         return bench;
     }
 
-    private static void follow(String what, Model model, int algorithm, int root) {
-        RoundBench bench = makeBench(model);
+    private static Bench makeChosen(String what, Model model, int algorithm, int root) {
+        Bench bench = makeBench(model);
         CHECKS.same(what, bench.choose(algorithm, root), true);
+        return bench;
+    }
+
+    /** One bench goes on by round(); what is held is asked of others, to stay below 512 calls. */
+    private static void follow(String what, Model model, int algorithm, int root) {
+        Bench bench = makeChosen(what, model, algorithm, root);
         int letters = 0;
         int round = 0;
         while (!model.finished(algorithm, root, round) && round < 20) {
             String where = what + ", round " + round;
-            look(where, bench, round, letters, model.held(algorithm, root, round));
+            look(where, model, algorithm, root, round, letters);
             CHECKS.same(where + ": finished()", bench.finished(), false);
             int due = model.letters(algorithm, root, round);
             CHECKS.same(where + ": round()", bench.round(), due);
             letters += due;
             round++;
         }
-        int[][] last = model.held(algorithm, root, round);
-        look(what + " in the end", bench, round, letters, last);
+        look(what + " in the end", model, algorithm, root, round, letters);
         CHECKS.same(what + ": finished()", bench.finished(), true);
+        CHECKS.same(what + ": rounds()", bench.rounds(), round);
+        CHECKS.same(what + ": letters()", bench.letters(), letters);
         CHECKS.same(what + ": round() in the end", bench.round(), -1);
+        holds(what, bench, model.held(algorithm, root, round));
         CHECKS.same(what + ": choose() again", bench.choose(algorithm, root), true);
-        CHECKS.same(what + ": run()", bench.run(20), round);
-        look(what + " by run()", bench, round, letters, last);
+        CHECKS.same(what + ": run(greatest)", bench.run(Integer.MAX_VALUE), round);
+        holds(what + " by run()", bench, model.held(algorithm, root, round));
     }
 
-    private static void look(String what, RoundBench bench, int rounds, int letters, int[][] due) {
+    private static void look(String what, Model model, int algorithm, int root, int rounds, int letters) {
+        Bench bench = makeChosen(what, model, algorithm, root);
+        CHECKS.same(what + ": run(" + rounds + ")", bench.run(rounds), rounds);
         CHECKS.same(what + ": rounds()", bench.rounds(), rounds);
         CHECKS.same(what + ": letters()", bench.letters(), letters);
+        holds(what, bench, model.held(algorithm, root, rounds));
+    }
+
+    private static void holds(String what, Bench bench, int[][] due) {
         for (int v = 0; v < due.length; v++) {
             for (int slot = 0; slot < 3; slot++) {
                 CHECKS.same(what + ": held(" + v + ", " + slot + ")", bench.held(v, slot), due[v][slot]);

@@ -11,7 +11,7 @@ public final class PairsTest {
     }
 
     private static void kite() {
-        RoundBench bench = Nets.kite();
+        Bench bench = Nets.kite();
         bench.choose(5, 0);
         CHECKS.round("round 1", bench, 14, new int[][] {
             {-1, 0, -1}, {-1, 0, -1}, {3, 1, -1}, {2, 1, -1}, {-1, 0, -1}, {-1, 0, -1}});
@@ -22,7 +22,7 @@ public final class PairsTest {
 
     // Edge 2 is the heaviest at node 3 alone, which is not enough while node 2 has edge 1.
     private static void sameWeights() {
-        RoundBench bench = Nets.path(4);
+        Bench bench = Nets.path(4);
         bench.choose(5, 0);
         CHECKS.round("path, round 1", bench, 6, new int[][] {
             {1, 1, -1}, {0, 1, -1}, {-1, 0, -1}, {-1, 0, -1}});
@@ -32,7 +32,7 @@ public final class PairsTest {
     }
 
     private static void leftAlone() {
-        RoundBench bench = new RoundBench();
+        Bench bench = new Bench();
         bench.net(4);
         Nets.edges(bench, new int[][] {{1, 2, 7}, {0, 1, 7}, {2, 3, 7}});
         bench.ready();
@@ -43,7 +43,7 @@ public final class PairsTest {
     }
 
     private static void single() {
-        RoundBench bench = Nets.single();
+        Bench bench = Nets.single();
         bench.choose(5, 0);
         CHECKS.over("one node", bench, 0, 0, new int[][] {{-1, 0, -1}});
     }

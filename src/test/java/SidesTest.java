@@ -10,7 +10,7 @@ public final class SidesTest {
     }
 
     private static void kite() {
-        RoundBench bench = Nets.kite();
+        Bench bench = Nets.kite();
         bench.choose(7, 0);
         CHECKS.round("round 1", bench, 2, new int[][] {
             {0, 0, 0}, {1, 0, 1}, {1, 0, 1}, {-1, 0, 0}, {-1, 0, 0}, {-1, 0, 0}});
@@ -25,7 +25,7 @@ public final class SidesTest {
     }
 
     private static void evenRing() {
-        RoundBench bench = Nets.path(4);
+        Bench bench = Nets.path(4);
         bench.edge(3, 0, 1);
         bench.ready();
         bench.choose(7, 1);
@@ -34,7 +34,7 @@ public final class SidesTest {
     }
 
     private static void single() {
-        RoundBench bench = Nets.single();
+        Bench bench = Nets.single();
         bench.choose(7, 0);
         CHECKS.over("one node", bench, 0, 0, new int[][] {{0, 0, 0}});
     }

@@ -10,7 +10,7 @@ public final class SumsTest {
     }
 
     private static void kite() {
-        RoundBench bench = Nets.kite();
+        Bench bench = Nets.kite();
         bench.choose(2, 0);
         CHECKS.round("round 1", bench, 2, new int[][] {
             {120, 1, 0}, {20, 1, 0}, {70, 0, 1}, {10, 1, 0}, {130, 0, 0}, {40, 0, 1}});
@@ -26,7 +26,7 @@ public final class SumsTest {
     }
 
     private static void star() {
-        RoundBench bench = new RoundBench();
+        Bench bench = new Bench();
         bench.net(4);
         Nets.edges(bench, new int[][] {{3, 0, 1}, {3, 1, 1}, {3, 2, 1}});
         Nets.identities(bench, 999, 998, 997, 996);
@@ -40,7 +40,7 @@ public final class SumsTest {
     }
 
     private static void single() {
-        RoundBench bench = Nets.single();
+        Bench bench = Nets.single();
         bench.choose(2, 0);
         CHECKS.round("one node", bench, 0, new int[][] {{1, 0, 1}});
         CHECKS.over("one node", bench, 1, 0, new int[][] {{1, 0, 1}});

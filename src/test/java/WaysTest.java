@@ -9,7 +9,7 @@ public final class WaysTest {
     }
 
     private static void kite() {
-        RoundBench bench = Nets.kite();
+        Bench bench = Nets.kite();
         bench.choose(1, 0);
         CHECKS.round("round 1", bench, 2, new int[][] {
             {0, -1, 0}, {4, 0, 1}, {1, 0, 1}, {-1, -1, 0}, {-1, -1, 0}, {-1, -1, 0}});
@@ -26,7 +26,7 @@ public final class WaysTest {
     }
 
     private static void single() {
-        RoundBench bench = Nets.single();
+        Bench bench = Nets.single();
         bench.choose(1, 0);
         CHECKS.over("one node", bench, 0, 0, new int[][] {{0, -1, 0}});
     }
