@@ -9,7 +9,7 @@ public final class ModelTest {
         for (int net = 0; net < NETS; net++) {
             Model model = makeModel(1 + net % 12, net / 12 % 3);
             for (int algorithm = 0; algorithm < 8; algorithm++) {
-                int root = algorithm == 6 ? 1 + below(4) : below(model.n);
+                int root = algorithm == 6 ? 1 + below(net % 4 == 0 ? 12 : 4) : below(model.n);
                 follow("net " + net + ", choose(" + algorithm + ", " + root + ")", model, algorithm, root);
             }
         }
