@@ -17,6 +17,9 @@ public final class FaceTest {
         "boolean choose(int,int)", "int round()", "int run(int)", "boolean finished()",
         "int rounds()", "int letters()", "int held(int,int)");
 
+    private static final Set<String> IMPORTS = Set.of(
+        "import java.util.Arrays;", "import java.util.ArrayList;", "import java.util.List;");
+
     private static final String[] RULED_OUT = {
         "->", "::", "finally", "synchronized", "assert", "package ", "System.out", "Random",
         "nanoTime", "currentTimeMillis", "Exact(", "Thread", "import java.io", "double", "float"};
@@ -73,18 +76,41 @@ public final class FaceTest {
             boolean isNone = field.getName().equals("NONE");
             CHECKS.same(field + " is public", Modifier.isPublic(kind), isNone);
             CHECKS.same(field + " is private", Modifier.isPrivate(kind), !isNone);
-            CHECKS.same(field + " is final if static",
-                !Modifier.isStatic(kind) || Modifier.isFinal(kind), true);
         }
+        staticFields(RoundBench.class);
     }
 
     private static void nested() {
         Class<?>[] all = RoundBench.class.getDeclaredClasses();
         CHECKS.same("at most twelve classes", all.length + 1 <= 12, true);
+        sizes(RoundBench.class);
         for (Class<?> inside : all) {
             int kind = inside.getModifiers();
             CHECKS.same(inside + " is static", Modifier.isStatic(kind), true);
-            CHECKS.same(inside + " is hidden", Modifier.isPublic(kind) || Modifier.isProtected(kind), false);
+            CHECKS.same(inside + " is hidden", !Modifier.isPublic(kind) && !Modifier.isProtected(kind), true);
+            CHECKS.same(inside + " has classes inside", inside.getDeclaredClasses().length, 0);
+            sizes(inside);
+            staticFields(inside);
+        }
+    }
+
+    /** Rule 11: "at most seven parameters", "some twenty fields beside its constants". */
+    private static void sizes(Class<?> type) {
+        for (Method method : type.getDeclaredMethods()) {
+            CHECKS.same(method + " takes at most seven", method.getParameterCount() <= 7, true);
+        }
+        int fields = 0;
+        for (Field field : type.getDeclaredFields()) {
+            fields += Modifier.isStatic(field.getModifiers()) ? 0 : 1;
+        }
+        CHECKS.same(type + " has at most twenty fields", fields <= 20, true);
+    }
+
+    /** Rule 5: "Static fields are final". */
+    private static void staticFields(Class<?> type) {
+        for (Field field : type.getDeclaredFields()) {
+            int kind = field.getModifiers();
+            CHECKS.same(field + " is final if static", !Modifier.isStatic(kind) || Modifier.isFinal(kind), true);
         }
     }
 
@@ -93,6 +119,10 @@ public final class FaceTest {
             .replaceAll("(?s)/\\*.*?\\*/", "").replaceAll("//[^\n]*", "");
         for (String word : RULED_OUT) {
             CHECKS.same("the source has '" + word + "'", code.contains(word), false);
+        }
+        for (String line : code.split("\n")) {
+            boolean isImport = line.startsWith("import ");
+            CHECKS.same("may be imported: " + line, !isImport || IMPORTS.contains(line), true);
         }
     }
 }
